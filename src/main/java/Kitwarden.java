@@ -2211,6 +2211,7 @@ public final class Kitwarden {
         private final Shelf shelf;
         private final Meets meets;
         private final int[] ahead = new int[MOST_PACKS];
+        // The packages from which a row leads so many steps to the least one of the ring.
         private final int[] atDistance = new int[MOST_PACKS + 1];
         final int[] row = new int[MOST_PACKS];
         int length = 0;
@@ -2276,23 +2277,19 @@ public final class Kitwarden {
 
         /** Makes row the ring whose least package is the first one; false if there is none. */
         private boolean isRingFrom(int first, int left) {
-            int allowed = left & -(1 << first);
-            int seen = 1 << first;
-            atDistance[0] = (allowed >> first & 1) != 0 ? seen : 0;
+            int unseen = left & -(1 << first) & ~(1 << first);
+            atDistance[0] = left & 1 << first;
             for (int d = 1; d <= MOST_PACKS; d++) {
                 int level = 0;
                 for (int p = 0; p < shelf.packs; p++) {
                     level |= (atDistance[d - 1] >> p & 1) != 0 ? ahead[p] : 0;
                 }
-                if (d > 1 && (level & 1 << first) == 0 && (level & allowed & ~seen) == 0) {
-                    return false;
-                }
-                atDistance[d] = level & allowed & ~seen;
-                seen |= atDistance[d];
                 if ((level >> first & 1) != 0) {
                     walkRing(first, d);
                     return true;
                 }
+                atDistance[d] = level & unseen;
+                unseen &= ~level;
             }
             return false;
         }
