@@ -2052,18 +2052,18 @@ public final class Kitwarden {
         }
 
         private void takeAll() {
-            for (int c = 0; c < Clauses.MOST; c++) {
+            for (int c = 0; c < clauses.number; c++) {
                 solver.isLeftOut[c] = false;
             }
         }
 
         private boolean isRefuted() {
-            for (int c = 0; c < Clauses.MOST; c++) {
+            for (int c = 0; c < clauses.number; c++) {
                 solver.isUsed[c] = false;
             }
             solver.free();
             boolean canHold = solver.canHold(0L, 0L);
-            for (int c = 0; c < Clauses.MOST && !canHold; c++) {
+            for (int c = 0; c < clauses.number && !canHold; c++) {
                 isBlamed[c] = solver.isUsed[c];
             }
             return !canHold;
@@ -2177,7 +2177,7 @@ public final class Kitwarden {
             if (coreCount == 0) {
                 return false;
             }
-            for (int c = 0; c < Clauses.MOST; c++) {
+            for (int c = 0; c < clauses.number; c++) {
                 solver.isLeftOut[c] = true;
             }
             for (int k = 0; k < coreCount; k++) {

@@ -352,6 +352,12 @@ public final class InstallsTest {
         kit.wish("c");
         kit.x.solve(false);
         Kit.same("of three", kit.x.clashes(), 4);
+        Kit apart = Kit.of(3).full(0, 10099, 1, 0, 0).full(1, 10099, 2, 0, 0).full(2, 10099, 1, 0, 0);
+        apart.wish("a");
+        apart.wish("b");
+        apart.wish("c");
+        apart.x.solve(false);
+        Kit.same("of the first and the last", apart.x.clashes(), 1);
     }
 
     private static void fails() {

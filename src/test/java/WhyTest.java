@@ -73,6 +73,7 @@ public final class WhyTest {
         Kit.same("numbers", kit.core(0), "2 4");
         Kit.same("kinds", kit.core(1), "0 1");
         Kit.same("of", kit.core(2), "1 0");
+        Kit.same("no version", kit.core(3), "-1 -1");
         Kit.same("literals", kit.core(4), "1 1");
         kit.x.hold(0, false);
         Kit.same("numbers", kit.core(0), "0 2 4");
