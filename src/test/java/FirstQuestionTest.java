@@ -7,15 +7,33 @@ public final class FirstQuestionTest {
         Object of(Kitwarden x);
     }
 
+    interface Change {
+        void in(Kit kit, boolean isAsked);
+    }
+
     private static final List<String> names = new ArrayList<>();
     private static final List<Question> questions = new ArrayList<>();
 
     public static void main(String[] args) {
         gather();
-        check("a set fits", false, false);
-        check("none fits", true, false);
-        check("undone", false, true);
-        check("undone to none", true, true);
+        check("nothing more", (kit, isAsked) -> { });
+        check("none fits", FirstQuestionTest::refuse);
+        check("undone", FirstQuestionTest::undo);
+        check("undone to none", (kit, isAsked) -> {
+            refuse(kit, isAsked);
+            undo(kit, isAsked);
+        });
+        check("a ring", (kit, isAsked) -> kit.ahead(2, 10099, "a"));
+        check("a wish", (kit, isAsked) -> kit.wish("b|d"));
+        check("no wish", (kit, isAsked) -> kit.x.unwish(2));
+        check("a hold", (kit, isAsked) -> kit.x.hold(2, true));
+        check("an install", (kit, isAsked) -> kit.x.install());
+        check("nothing as the goal", (kit, isAsked) -> kit.x.backTo(-1));
+        check("another root", (kit, isAsked) -> kit.x.root(2));
+        check("a version", (kit, isAsked) -> kit.v(0, 30099));
+        check("a ban", (kit, isAsked) -> kit.ban(2, 10099, "a"));
+        check("an option", (kit, isAsked) -> kit.option(0, 20099, "b 2.0"));
+        check("what it provides", (kit, isAsked) -> kit.x.provide(3, 20099, 0, 30099));
         Kit.end("FirstQuestionTest");
     }
 
@@ -62,14 +80,18 @@ public final class FirstQuestionTest {
         add("install", Kitwarden::install);
     }
 
-    /** Each question on a new keeper, and on one that was asked everything ahead of each change. */
-    private static void check(String what, boolean isNone, boolean isUndone) {
+    /** Each question as the first one behind the latest change, and behind all other questions. */
+    private static void check(String what, Change latest) {
         for (int q = 0; q < questions.size(); q++) {
             Question question = questions.get(q);
-            Kit asked = world(isNone, isUndone, true);
-            Kit fresh = world(isNone, isUndone, false);
-            Kit.same(what + ": " + names.get(q), Kit.answer(() -> question.of(fresh.x)),
-                    Kit.answer(() -> question.of(asked.x)));
+            Kit fresh = world(latest, false);
+            Kit asked = world(latest, true);
+            Kit told = world(latest, false);
+            told.all();
+            Object due = Kit.answer(() -> question.of(told.x));
+            String name = what + ": " + names.get(q);
+            Kit.same(name + ", first", Kit.answer(() -> question.of(fresh.x)), due);
+            Kit.same(name + ", behind others and a change", Kit.answer(() -> question.of(asked.x)), due);
         }
     }
 
@@ -79,7 +101,8 @@ public final class FirstQuestionTest {
         }
     }
 
-    private static Kit world(boolean isNone, boolean isUndone, boolean isAsked) {
+    /** A world that is asked, or not, ahead of each of some changes. */
+    private static Kit world(Change latest, boolean isAsked) {
         Kit kit = Kit.of(4);
         for (int p = 0; p < 4; p++) {
             kit.full(p, 10099, 1 << p, 5, p).full(p, 20099, 2 << p, 6, p);
@@ -106,24 +129,27 @@ public final class FirstQuestionTest {
         kit.x.unwish(0);
         kit.x.solve(false);
         ask(kit, isAsked);
-        if (isNone) {
-            kit.pin(3, "9.0");
-            ask(kit, isAsked);
-            kit.need(3, 10099, "a");
-            kit.ban(0, 20099, "c");
-            ask(kit, isAsked);
-        }
-        if (isUndone) {
-            kit.wish("d 1.0");
-            kit.x.root(1);
-            ask(kit, isAsked);
-            kit.wish("d");
-            ask(kit, isAsked);
-            kit.x.undo();
-            ask(kit, isAsked);
-            kit.x.undo();
-            kit.x.undo();
-        }
+        latest.in(kit, isAsked);
         return kit;
+    }
+
+    private static void refuse(Kit kit, boolean isAsked) {
+        kit.pin(3, "9.0");
+        ask(kit, isAsked);
+        kit.need(3, 10099, "a");
+        ask(kit, isAsked);
+        kit.ban(0, 20099, "c");
+    }
+
+    private static void undo(Kit kit, boolean isAsked) {
+        kit.wish("d 1.0");
+        kit.x.root(1);
+        ask(kit, isAsked);
+        kit.wish("d");
+        ask(kit, isAsked);
+        kit.x.undo();
+        ask(kit, isAsked);
+        kit.x.undo();
+        kit.x.undo();
     }
 }

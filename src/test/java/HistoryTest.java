@@ -16,6 +16,7 @@ public final class HistoryTest {
         size();
         undo();
         undoOfEachChange();
+        undoneVersions();
         noChanges();
         checksum();
         isSound();
@@ -283,6 +284,37 @@ public final class HistoryTest {
         change(kit, "hold not", () -> kit.x.hold(0, false));
         change(kit, "the same root", () -> kit.x.root(0));
         change(kit, "the same quota", () -> kit.x.quota(77));
+    }
+
+    private static void undoneVersions() {
+        Kit kit = Kit.of(2).full(0, 10099, 1, 1, 1).full(0, 30099, 2, 2, 2);
+        kit.full(0, 20099, 4, 4, 4);
+        kit.need(0, 20099, "b");
+        kit.x.fails(0, 20099, true);
+        Kit.same("three", kit.row(3, k -> kit.x.versionAt(0, k)), "10099 20099 30099");
+        kit.x.undo();
+        kit.x.undo();
+        kit.x.undo();
+        Kit.same("two", kit.row(2, k -> kit.x.versionAt(0, k)), "10099 30099");
+        kit.index("no third", () -> kit.x.versionAt(0, 2));
+        kit.full(1, 20099, 8, 8, 8);
+        kit.wish("a 3.0");
+        kit.x.solve(false);
+        Kit.same("of the other package", kit.x.versionAt(1, 0), 20099);
+        kit.x.lock(0);
+        kit.wish("b");
+        kit.x.solve(false);
+        kit.x.lock(1);
+        Kit.same("its change alone", kit.x.lockDiffers(0, 1), 1);
+        Kit.same("without need and failing script", kit.x.install(), 2);
+        Kit.same("its file and size", kit.x.owner(3) + " " + kit.x.owner(2) + " " + kit.x.size(),
+                "1 -1 10");
+        kit.x.mirror();
+        Kit.same("an offer", kit.x.offer(0, 0, 10099, 1), 1);
+        Kit.same("and another one", kit.x.offer(0, 0, 30099, 9), 2);
+        kit.x.undo();
+        kit.x.undo();
+        Kit.same("undone", kit.x.offer(0, 1, 20099, 8), 1);
     }
 
     private static void noChanges() {

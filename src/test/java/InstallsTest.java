@@ -274,6 +274,15 @@ public final class InstallsTest {
         Kit.same("what is there runs no script", kit.x.install(), 0);
         kit.x.backTo(-1);
         Kit.same("what goes runs none", kit.x.install(), 2);
+        Kit first = Kit.of(2).v(0, 10099).full(1, 10099, 1, 0, 0);
+        first.wish("a");
+        first.wish("b");
+        first.x.fails(0, 10099, true);
+        first.x.solve(false);
+        Kit.same("the first one", first.x.install(), -1);
+        Kit.same("at a", first.failure(), "4 0 0");
+        first.x.fails(0, 10099, false);
+        Kit.same("b has file 0", first.x.install(), 2);
     }
 
     private static void switched() {

@@ -69,6 +69,23 @@ public final class PackagesTest {
         Kit.same("200 and nothing", kit.x.append(0, 0, 0, 0, 0), 200);
         kit.state("201 again", () -> kit.x.append(0, 0, 0, 0, 1));
         Kit.same("still 200", kit.x.clearTape(), 200);
+        for (int k = 0; k < 5; k++) {
+            full(k);
+        }
+    }
+
+    /** With two bytes of room, each of the five words can be the one that has too many. */
+    private static void full(int place) {
+        Kit kit = new Kit();
+        for (int k = 0; k < 9; k++) {
+            kit.x.append(-1, -1, -1, -1, -1);
+        }
+        kit.x.append(-1, -1, -1, -1, -1 >>> 16);
+        int[] w = new int[5];
+        w[place] = 0x01000203;
+        kit.state("three more", () -> kit.x.append(w[0], w[1], w[2], w[3], w[4]));
+        w[place] = 0x01000200;
+        Kit.same("two more", kit.x.append(w[0], w[1], w[2], w[3], w[4]), 200);
     }
 
     private static void clearTape() {
@@ -229,6 +246,24 @@ public final class PackagesTest {
         kit.x.unwish(0);
         kit.install();
         Kit.same("gone again", kit.need(0, 10099, "b"), 1);
+        for (int root = 0; root < 3; root++) {
+            installedInOne(root);
+        }
+    }
+
+    private static void installedInOne(int root) {
+        for (int at = 0; at < 3; at++) {
+            Kit kit = Kit.of(2).v(0, 10099).v(1, 10099);
+            kit.x.root(root);
+            kit.wish("a");
+            kit.install();
+            kit.x.root(at);
+            kit.state("need, installed in root " + root, () -> kit.tape("b").x.need(0, 10099, true));
+            kit.state("ban, installed in root " + root, () -> kit.x.ban(0, 10099));
+            kit.state("provide, installed in root " + root, () -> kit.x.provide(0, 10099, 1, 99));
+            kit.state("option, installed in root " + root, () -> kit.x.option(0, 10099));
+            Kit.same("not installed", kit.x.ban(1, 10099), 1);
+        }
     }
 
     private static void ban() {

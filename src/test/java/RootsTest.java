@@ -98,6 +98,16 @@ public final class RootsTest {
         Kit.same("end the hold of c", kit.x.hold(2, false), 1);
         kit.x.solve(false);
         Kit.same("both may come", kit.goal(), "10099 10099 10099");
+        Kit.same("with a 1.0, and b or c or both", kit.x.fitting(), 3);
+        kit.x.lock(0);
+        Kit.same("fits the hold", kit.x.takeLock(0), 1);
+        kit.x.hold(1, true);
+        Kit.same("b is none", kit.x.takeLock(0), 0);
+        Kit.same("as it must be", kit.x.mergeLocks(0, 0), 0);
+        Kit.same("c alone", kit.x.fitting(), 1);
+        kit.x.undo();
+        kit.x.undo();
+        kit.x.undo();
         kit.x.unwish(0);
         kit.x.root(1);
         Kit.same("no hold in another root", kit.x.hold(1, true), 1);

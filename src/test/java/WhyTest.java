@@ -95,7 +95,17 @@ public final class WhyTest {
         Kit.same("no option", kit.core(1), "0 6");
         Kit.same("of", kit.core(2), "3 1");
         Kit.same("literals", kit.core(4), "1 1");
+        Kit.same("no version", kit.core(3), "-1 -1");
         kit.x.unwish(3);
+        kit.x.hold(0, true);
+        kit.pin(0, "2.0");
+        Kit.same("the version that is held is pinned away", kit.core(1), "0 2");
+        kit.x.unwish(0);
+        Kit.same("also if it is not wished", kit.core(1), "1 2");
+        Kit.same("of", kit.core(2), "0 0");
+        Kit.same("no version", kit.core(3), "-1 -1");
+        kit.pin(0, "");
+        kit.wish("a");
         kit.x.hold(2, true);
         kit.wish("c");
         Kit.same("held away", kit.core(1), "0 1");
