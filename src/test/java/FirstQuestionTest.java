@@ -23,7 +23,8 @@ public final class FirstQuestionTest {
             refuse(kit, isAsked);
             undo(kit, isAsked);
         });
-        check("a ring", (kit, isAsked) -> kit.ahead(2, 10099, "a"));
+        check("a ring", (kit, isAsked) -> kit.ahead(1, 10099, "a"));
+        check("another order", (kit, isAsked) -> kit.ahead(0, 20099, "d|c"));
         check("a wish", (kit, isAsked) -> kit.wish("b|d"));
         check("no wish", (kit, isAsked) -> kit.x.unwish(2));
         check("a hold", (kit, isAsked) -> kit.x.hold(2, true));
