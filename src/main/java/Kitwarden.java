@@ -39,10 +39,10 @@ public final class Kitwarden {
     private final ArrayList<State> before = new ArrayList<State>();
     private final Meets meets = new Meets(now);
     private final Clauses clauses = new Clauses(now, meets);
-    private final Solver solver = new Solver(now, clauses);
-    private final Prover prover = new Prover(clauses, solver);
-    private final Links links = new Links(now, meets);
-    private final Installer installer = new Installer(now, meets, links);
+    private final Search search = new Search(clauses);
+    private final Solver solver = new Solver(now, search);
+    private final Prover prover = new Prover(clauses, search);
+    private final Installer installer = new Installer(now, meets);
     private int oldest = 0;
     private int undoable = 0;
     private int known = NOTHING;
@@ -253,10 +253,10 @@ public final class Kitwarden {
     public int solve(boolean isLeast) {
         remember();
         know(TOLD);
-        boolean fits = isLeast ? solver.findLeast() : solver.findNewest();
-        if (!fits) {
+        if (!solver.find(isLeast)) {
             return NONE;
         }
+        solver.settle();
         now.atHand().goal = solver.found;
         return packsIn(solver.found);
     }
@@ -282,7 +282,7 @@ public final class Kitwarden {
     }
 
     public int fitting() {
-        know(MET);
+        knowMet();
         int sets = meets.setsToGoThrough();
         if (sets > MOST_SETS) {
             return NONE;
@@ -296,16 +296,16 @@ public final class Kitwarden {
 
     public int because(int pack) throws IndexOutOfBoundsException {
         checkPack(pack);
-        know(MET);
-        links.reach(now.atHand().goal);
-        return links.reasons[pack];
+        knowMet();
+        installer.reach(now.atHand().goal);
+        return installer.reasons[pack];
     }
 
     public int far(int pack) throws IndexOutOfBoundsException {
         checkPack(pack);
-        know(MET);
-        links.reach(now.atHand().goal);
-        return links.distances[pack];
+        knowMet();
+        installer.reach(now.atHand().goal);
+        return installer.distances[pack];
     }
 
     // ---- Why none fits
@@ -422,16 +422,16 @@ public final class Kitwarden {
     }
 
     public int fetches() {
-        know(MET);
-        links.arrange(now.atHand().goal);
-        return links.isRing ? NONE : installer.comingCount();
+        knowMet();
+        installer.arrange(now.atHand().goal);
+        return installer.isRing ? NONE : installer.comingCount();
     }
 
     public int fetchAt(int place, boolean isMirror)
             throws NoSuchElementException, IndexOutOfBoundsException {
-        know(MET);
-        links.arrange(now.atHand().goal);
-        if (links.isRing) {
+        knowMet();
+        installer.arrange(now.atHand().goal);
+        if (installer.isRing) {
             throw new NoSuchElementException("the scripts have no order");
         }
         if (place < 0 || place >= installer.comingCount()) {
@@ -460,7 +460,7 @@ public final class Kitwarden {
     public int install() throws IllegalStateException {
         checkGoalSound();
         remember();
-        know(MET);
+        knowMet();
         return installer.run();
     }
 
@@ -516,28 +516,28 @@ public final class Kitwarden {
     }
 
     public int scripts() {
-        know(MET);
-        links.arrange(now.atHand().goal);
-        return links.isRing ? -links.length : links.length;
+        knowMet();
+        installer.arrange(now.atHand().goal);
+        return installer.isRing ? -installer.length : installer.length;
     }
 
     public int scriptAt(int place) throws IndexOutOfBoundsException {
-        know(MET);
-        links.arrange(now.atHand().goal);
-        if (place < 0 || place >= links.length) {
+        knowMet();
+        installer.arrange(now.atHand().goal);
+        if (place < 0 || place >= installer.length) {
             throw new IndexOutOfBoundsException("no such place");
         }
-        return links.row[place];
+        return installer.row[place];
     }
 
     // ---- What is installed
 
     public int orphans() {
-        know(MET);
-        links.reach(now.atHand().inPlace);
+        knowMet();
+        installer.reach(now.atHand().inPlace);
         int lost = 0;
         for (int p = 0; p < now.shelf.packs; p++) {
-            if (now.shelf.idIn(now.atHand().inPlace, p) != NONE && links.distances[p] == NONE) {
+            if (now.shelf.idIn(now.atHand().inPlace, p) != NONE && installer.distances[p] == NONE) {
                 lost |= 1 << p;
             }
         }
@@ -546,7 +546,7 @@ public final class Kitwarden {
 
     public int without(int pack) throws IndexOutOfBoundsException {
         checkPack(pack);
-        know(MET);
+        knowMet();
         long inPlace = now.atHand().inPlace;
         if (now.shelf.idIn(inPlace, pack) == NONE) {
             return 0;
@@ -601,7 +601,7 @@ public final class Kitwarden {
     }
 
     public boolean isSound() {
-        know(MET);
+        knowMet();
         for (int r = 0; r < ROOTS; r++) {
             if (!meets.isSoundSet(now.rootOf(r).inPlace)) {
                 return false;
@@ -613,11 +613,13 @@ public final class Kitwarden {
     public int errors() {
         know(PROVED);
         int fits = fitting();
-        boolean isFound = solver.findNewest();
+        boolean isFound = solver.find(false);
         int wrong = fits != NONE && isFound != fits > 0 ? 1 : 0;
         if (isFound) {
+            solver.settle();
             wrong += isBeaten(solver.found, false) ? 1 : 0;
-            solver.findLeast();
+            solver.find(true);
+            solver.settle();
             wrong += isBeaten(solver.found, true) ? 1 : 0;
         }
         wrong += prover.isCoreWrong() ? 1 : 0;
@@ -678,7 +680,7 @@ public final class Kitwarden {
     }
 
     private void checkGoalSound() {
-        know(MET);
+        knowMet();
         if (!meets.isSoundSet(now.atHand().goal)) {
             throw new IllegalStateException("the goal is not sound");
         }
@@ -723,11 +725,15 @@ public final class Kitwarden {
         }
     }
 
-    private void know(int level) {
-        if (known < MET && level >= MET) {
+    private void knowMet() {
+        if (known < MET) {
             meets.renew();
             known = MET;
         }
+    }
+
+    private void know(int level) {
+        knowMet();
         if (known < TOLD && level >= TOLD) {
             clauses.tell();
             known = TOLD;
@@ -744,7 +750,7 @@ public final class Kitwarden {
 
     private int takeGoal(long set) {
         now.atHand().goal = set;
-        know(MET);
+        knowMet();
         return meets.isFitting(set) ? 1 : 0;
     }
 
@@ -1614,7 +1620,7 @@ public final class Kitwarden {
         static final int MOST = 3712;
 
         private final State state;
-        private final Shelf shelf;
+        final Shelf shelf;
         private final Meets meets;
         int number = 0;
         final long[] with = new long[MOST];
@@ -1734,121 +1740,504 @@ public final class Kitwarden {
     }
 
     /**
-     * Looks for sets in which the told clauses hold, but those that are left out: it tries a literal
-     * of a clause that does not hold yet, then the opposite, and draws what follows from each.
+     * Looks for a set in which the told clauses hold, but those that are left out: it tries literals
+     * and draws what follows. Of each clash it keeps a clause that tells what came of it, so that it
+     * does not run into the same one again.
+     *
+     * <p>Beside the bits of a set there is one for the change of each package, which counts if only
+     * so many packages may be changed. A literal is told by its bit, and with not by BITS + its bit.
      */
-    private static final class Solver {
-        // One level for each version and option, and some to spare.
-        private static final int DEPTH = 64;
-        private static final int MOST_TRIES = 1000000;
+    private static final class Search {
+        private static final int BITS = 64;
+        private static final int FIRST_CHANGE = MOST_VERSIONS + MOST_PACKS;
+        private static final long CHANGES = -1L << FIRST_CHANGE;
+        private static final int MOST_KEPT = 256;
+        // Behind all clauses: that too many packages are changed, and what is made of a clash.
+        private static final int BOUND = Clauses.MOST + FIRST_CHANGE + MOST_KEPT;
+        private static final int DRAFT = BOUND + 1;
+        // Behind the two watches of each clause: where the chain of each literal starts.
+        private static final int CHAINS = 2 * BOUND;
+        // No search comes near: the turns end by themselves, as each clash rules out a part of all.
+        private static final long MOST_TURNS = 1L << 60;
+        private static final int MOST_GAIN = 1 << 24;
 
-        private final State state;
-        private final Shelf shelf;
         private final Clauses clauses;
         final boolean[] isLeftOut = new boolean[Clauses.MOST];
+        // The told clauses that a search without success came by.
         final boolean[] isUsed = new boolean[Clauses.MOST];
-        long found = 0L;
         private long like = 0L;
         private int bound = MOST_PACKS;
-        private long yes;
-        private long no;
-        private long literal;
-        private boolean isWith;
-        private final long[] yesAt = new long[DEPTH];
-        private final long[] noAt = new long[DEPTH];
-        private final long[] literalAtLevel = new long[DEPTH];
-        private final boolean[] isWithAt = new boolean[DEPTH];
-        private final int[] turns = new int[MOST_PACKS];
-        private int wishedPacks;
+        // The told clauses, those of changes, and up to the end those that are kept.
+        private final long[] with = new long[DRAFT + 1];
+        private final long[] without = new long[DRAFT + 1];
+        private int told = 0;
+        private int end = 0;
+        private long yes = 0L;
+        private long no = 0L;
+        // Level 0 is what follows anyway, 1 what is asked for, each other one a literal that is tried.
+        private int level = 0;
+        private final long[] atLevel = new long[BITS + 2];
+        private final int[] trail = new int[BITS];
+        private int drawn = 0;
+        private final int[] reasons = new int[BITS];
+        private final int[] watched = new int[CHAINS];
+        private final int[] nexts = new int[CHAINS + 2 * BITS];
+        // How much a bit has had to do with clashes, the latest ones most.
+        private final int[] weights = new int[BITS];
+        private int gain = 1;
 
-        Solver(State state, Clauses clauses) {
-            this.state = state;
-            this.shelf = state.shelf;
+        Search(Clauses clauses) {
             this.clauses = clauses;
         }
 
-        /** Makes found the newest set that fits; false if there is none. */
-        boolean findNewest() {
-            free();
-            if (!canHold(0L, 0L)) {
+        /** Takes the told clauses; at most so many packages may be unlike those of a set. */
+        void load(long likeThis, int mostChanges) {
+            like = likeThis;
+            bound = mostChanges;
+            yes = 0L;
+            no = 0L;
+            level = 0;
+            atLevel[0] = 0L;
+            drawn = 0;
+            gain = 1;
+            Arrays.fill(weights, 0);
+            System.arraycopy(clauses.with, 0, with, 0, clauses.number);
+            System.arraycopy(clauses.without, 0, without, 0, clauses.number);
+            told = clauses.number;
+            int packs = clauses.shelf.packs;
+            for (int p = 0; p < packs && bound < packs; p++) {
+                tellChange(p);
+            }
+            end = told;
+            watchAll();
+        }
+
+        /** Each version and the option of a package is as in like, or the package is changed. */
+        private void tellChange(int pack) {
+            for (int bit = 0; bit < FIRST_CHANGE; bit++) {
+                long itself = 1L << bit;
+                if ((clauses.shelf.whole[pack] & itself) != 0 && told < BOUND - MOST_KEPT) {
+                    with[told] = 1L << (FIRST_CHANGE + pack) | itself & like;
+                    without[told] = itself & ~like;
+                    told++;
+                }
+            }
+        }
+
+        private boolean isTaken(int c) {
+            return c >= clauses.number || !isLeftOut[c];
+        }
+
+        /** Watches all clauses but those that hold anyway, as they have a literal and its opposite. */
+        private void watchAll() {
+            for (int literal = 0; literal < 2 * BITS; literal++) {
+                nexts[CHAINS + literal] = NONE;
+            }
+            for (int c = 0; c < end; c++) {
+                if (isTaken(c) && (with[c] & without[c]) == 0) {
+                    watch(c);
+                }
+            }
+        }
+
+        /**
+         * Watches a clause at two literals that do not fail, or at those that failed on the highest
+         * levels. One literal alone is watched twice, and put.
+         */
+        private void watch(int c) {
+            long some = with[c] & ~no;
+            long none = without[c] & ~yes;
+            int first = pick(some, none, NONE);
+            int second = pick(some, none, first);
+            for (int at = level; at >= 0 && second == NONE; at--) {
+                some = with[c] & atLevel[at];
+                none = without[c] & atLevel[at];
+                first = first == NONE ? pick(some, none, NONE) : first;
+                second = pick(some, none, first);
+            }
+            if (first == NONE) {
+                return;
+            }
+            link(2 * c, first);
+            link(2 * c + 1, second == NONE ? first : second);
+            if (second == NONE && ((yes | no) >> (first % BITS) & 1) == 0) {
+                put(first, c);
+            }
+        }
+
+        private void link(int watch, int literal) {
+            watched[watch] = literal;
+            nexts[watch] = nexts[CHAINS + literal];
+            nexts[CHAINS + literal] = watch;
+        }
+
+        /** The first one of these literals, but one; NONE without any. */
+        private static int pick(long some, long none, int but) {
+            long left = but >= 0 && but < BITS ? some & ~(1L << but) : some;
+            if (left != 0) {
+                return Long.bitCount((left & -left) - 1);
+            }
+            left = but >= BITS ? none & ~(1L << (but - BITS)) : none;
+            return left != 0 ? BITS + Long.bitCount((left & -left) - 1) : NONE;
+        }
+
+        private void put(int literal, int reason) {
+            long bit = 1L << (literal % BITS);
+            int place = Long.bitCount(yes | no);
+            if (literal >= 0 && place < BITS) {
+                trail[place] = literal;
+                reasons[literal % BITS] = reason;
+                atLevel[level] |= bit;
+                yes |= literal < BITS ? bit : 0L;
+                no |= literal < BITS ? 0L : bit;
+            }
+        }
+
+        private void deepen() {
+            level += level <= BITS ? 1 : 0;
+            atLevel[level] = 0L;
+        }
+
+        private void back(int to) {
+            for (; level > to && level > 0; level--) {
+                yes &= ~atLevel[level];
+                no &= ~atLevel[level];
+            }
+            drawn = Math.min(drawn, Long.bitCount(yes | no));
+        }
+
+        /** Whether a set that has these, and lacks those, can hold; if so, found tells one. */
+        boolean canHold(long some, long none) {
+            back(0);
+            drawn = 0;
+            if ((some & none) != 0 || hasEmpty()) {
                 return false;
             }
-            findFirst();
+            for (long turn = 0; turn < MOST_TURNS; turn++) {
+                int clash = draw();
+                if (clash != NONE) {
+                    trace(clash);
+                    if (level < 2) {
+                        return false;
+                    }
+                    back(levelBelow());
+                    if (end >= told + MOST_KEPT) {
+                        forget();
+                        watchAll();
+                    }
+                    keep();
+                } else if (level == 0) {
+                    if ((some & no | none & yes) != 0) {
+                        return false;
+                    }
+                    deepen();
+                    putAll(some & ~yes, none & ~no);
+                } else {
+                    int literal = choose();
+                    if (literal == NONE) {
+                        return true;
+                    }
+                    deepen();
+                    put(literal, NONE);
+                }
+            }
+            return false;
+        }
+
+        /** The set that was found; what is open in it is as in like. */
+        long found() {
+            return (yes | like & ~no) & ~CHANGES;
+        }
+
+        private boolean hasEmpty() {
+            for (int c = 0; c < clauses.number; c++) {
+                if (!isLeftOut[c] && (with[c] | without[c]) == 0) {
+                    isUsed[c] = true;
+                    return true;
+                }
+            }
+            return false;
+        }
+
+        private void putAll(long some, long none) {
+            for (int bit = 0; bit < FIRST_CHANGE; bit++) {
+                if (((some | none) >> bit & 1) != 0) {
+                    put((some >> bit & 1) != 0 ? bit : BITS + bit, NONE);
+                }
+            }
+        }
+
+        /** Draws what follows from what was put; a clause that cannot hold any more, or NONE. */
+        private int draw() {
+            int clash = NONE;
+            for (int k = 0; k < BITS && clash == NONE && drawn < Long.bitCount(yes | no); k++) {
+                int literal = trail[drawn];
+                drawn++;
+                clash = visit(literal < BITS ? literal + BITS : literal - BITS);
+                if (clash == NONE && literal >= FIRST_CHANGE && literal < BITS) {
+                    clash = spread();
+                }
+            }
+            return clash;
+        }
+
+        /** Goes through the clauses that are watched at a literal which fails now. */
+        private int visit(int failed) {
+            int clash = NONE;
+            int watch = nexts[CHAINS + failed];
+            nexts[CHAINS + failed] = NONE;
+            for (int k = 0; k < CHAINS && watch != NONE; k++) {
+                int next = nexts[watch];
+                int c = watch / 2;
+                int other = watched[watch % 2 == 0 ? watch + 1 : watch - 1];
+                int to = failed;
+                if (clash == NONE && (with[c] & yes | without[c] & no) == 0) {
+                    long some = with[c] & ~no;
+                    long none = without[c] & ~yes;
+                    int free = pick(some, none, other);
+                    to = free == NONE ? failed : free;
+                    if ((some | none) == 0) {
+                        clash = c;
+                    } else if (free == NONE) {
+                        put(other, c);
+                    }
+                }
+                link(watch, to);
+                watch = next;
+            }
+            return clash;
+        }
+
+        /** If no more packages may be changed, the others stay; BOUND if there are too many. */
+        private int spread() {
+            int changed = Long.bitCount(yes & CHANGES);
+            for (int p = 0; p < clauses.shelf.packs && changed == bound; p++) {
+                if (((yes | no) >> (FIRST_CHANGE + p) & 1) == 0) {
+                    put(BITS + FIRST_CHANGE + p, BOUND);
+                }
+            }
+            return changed > bound ? BOUND : NONE;
+        }
+
+        /**
+         * Makes the draft what the clash comes from, by joining it with the reasons of its literals:
+         * a clause with one literal of this level; below level 2, of what was asked for alone.
+         */
+        private void trace(int clash) {
+            without[BOUND] = yes & CHANGES;
+            with[DRAFT] = 0L;
+            without[DRAFT] = 0L;
+            long seen = join(clash, 0L);
+            boolean isAlone = false;
+            for (int place = Long.bitCount(yes | no) - 1; place >= 0; place--) {
+                long bit = 1L << (trail[place] % BITS);
+                int reason = reasons[trail[place] % BITS];
+                long all = with[DRAFT] | without[DRAFT];
+                isAlone = isAlone || level > 1 && Long.bitCount(all & atLevel[level]) == 1;
+                if (reason != NONE && (all & bit) != 0 && (!isAlone || isCovered(reason, bit))) {
+                    seen |= join(reason, bit);
+                }
+            }
+            weigh(seen);
+        }
+
+        private long join(int c, long bit) {
+            if (c < clauses.number) {
+                isUsed[c] = true;
+            }
+            with[DRAFT] = (with[DRAFT] | with[c]) & ~bit;
+            without[DRAFT] = (without[DRAFT] | without[c]) & ~bit;
+            return with[c] | without[c];
+        }
+
+        /** Whether the draft only loses a literal if it is joined with a clause. */
+        private boolean isCovered(int c, long bit) {
+            return ((with[c] & ~with[DRAFT] | without[c] & ~without[DRAFT]) & ~bit) == 0;
+        }
+
+        private void weigh(long seen) {
+            gain += gain / 16 + 1;
+            for (int bit = 0; bit < BITS; bit++) {
+                weights[bit] += (seen >> bit & 1) != 0 ? gain : 0;
+            }
+            if (gain > MOST_GAIN) {
+                gain = gain >> 16;
+                for (int bit = 0; bit < BITS; bit++) {
+                    weights[bit] = weights[bit] >> 16;
+                }
+            }
+        }
+
+        /** The highest level of the draft below this one. */
+        private int levelBelow() {
+            long all = with[DRAFT] | without[DRAFT];
+            int to = level - 1;
+            while (to > 0 && (all & atLevel[to]) == 0) {
+                to--;
+            }
+            return to;
+        }
+
+        /** Keeps the draft, of which one literal must hold now. */
+        private void keep() {
+            int c = end;
+            end++;
+            with[c] = with[DRAFT];
+            without[c] = without[DRAFT];
+            watch(c);
+            if ((with[c] & yes | without[c] & no) == 0) {
+                put(pick(with[c] & ~no, without[c] & ~yes, NONE), c);
+            }
+        }
+
+        /** Forgets the older half of what was kept, but the reasons of what is put. */
+        private void forget() {
+            int newer = (told + end) / 2;
+            int left = told;
+            for (int c = told; c < end; c++) {
+                boolean isKept = c >= newer;
+                for (int place = 0; place < Long.bitCount(yes | no); place++) {
+                    int bit = trail[place] % BITS;
+                    if (reasons[bit] == c) {
+                        reasons[bit] = left;
+                        isKept = true;
+                    }
+                }
+                if (isKept) {
+                    with[left] = with[c];
+                    without[left] = without[c];
+                    left++;
+                }
+            }
+            end = left;
+        }
+
+        /**
+         * A literal of a clause that would not hold if all that is open were as in like: of those
+         * with the fewest open literals the one with the most weight. NONE without such a clause.
+         */
+        private int choose() {
+            long filled = yes | like & ~no;
+            int fewest = 2 * BITS;
+            long some = 0L;
+            long none = 0L;
+            for (int c = 0; c < told; c++) {
+                if ((with[c] & filled) == 0 && (without[c] & ~filled) == 0 && isTaken(c)) {
+                    long open = with[c] & ~no;
+                    long openNot = without[c] & ~yes;
+                    int count = Long.bitCount(open) + Long.bitCount(openNot);
+                    boolean isFewer = count < fewest;
+                    some = isFewer ? open : count == fewest ? some | open : some;
+                    none = isFewer ? openNot : count == fewest ? none | openNot : none;
+                    fewest = Math.min(count, fewest);
+                }
+            }
+            return heaviest(some, none);
+        }
+
+        private int heaviest(long some, long none) {
+            int best = NONE;
+            int most = NONE;
+            for (int bit = 0; bit < BITS; bit++) {
+                if (((some | none) >> bit & 1) != 0 && weights[bit] > most) {
+                    most = weights[bit];
+                    best = (some >> bit & 1) != 0 ? bit : BITS + bit;
+                }
+            }
+            return best;
+        }
+    }
+
+    /** Finds the newest set that fits, the least changed one, and whether all of them have a version. */
+    private static final class Solver {
+        private final State state;
+        private final Shelf shelf;
+        private final Search search;
+        long found = 0L;
+        private final int[] turns = new int[MOST_PACKS];
+        private int wishedPacks;
+
+        Solver(State state, Search search) {
+            this.state = state;
+            this.shelf = state.shelf;
+            this.search = search;
+        }
+
+        /** Makes found a set that fits, if asked for with the fewest changes; false without any. */
+        boolean find(boolean isLeast) {
+            long like = isLeast ? state.atHand().inPlace : 0L;
+            search.load(like, MOST_PACKS);
+            if (!search.canHold(0L, 0L)) {
+                return false;
+            }
+            found = search.found();
+            int changed = isLeast ? Integer.bitCount(shelf.unlikePacks(found, like)) : 0;
+            for (int k = 0; k < MOST_PACKS && changed > 0; k++) {
+                search.load(like, changed - 1);
+                boolean isLess = search.canHold(0L, 0L);
+                found = isLess ? search.found() : found;
+                changed = isLess ? Integer.bitCount(shelf.unlikePacks(found, like)) : 0;
+            }
+            if (isLeast) {
+                search.load(like, Integer.bitCount(shelf.unlikePacks(found, like)));
+            }
             return true;
         }
 
-        /** Makes found the least changed set that fits; false if there is none. */
-        boolean findLeast() {
-            free();
-            if (!canHold(0L, 0L)) {
-                return false;
-            }
-            like = state.atHand().inPlace;
-            boolean isFound = false;
-            for (int most = 0; most <= MOST_PACKS && !isFound; most++) {
-                bound = most;
-                isFound = canHold(0L, 0L);
-            }
-            findFirst();
-            free();
-            return isFound;
-        }
-
-        /** 1 if the literal is in all sets that fit, -1 if in none, otherwise 0; -2 without any. */
+        /** 1 if the version is in all sets that fit, -1 if in none, otherwise 0; -2 without any. */
         int mustHave(long version) {
-            free();
-            if (!canHold(0L, 0L)) {
+            search.load(0L, MOST_PACKS);
+            if (!search.canHold(0L, 0L)) {
                 return -2;
             }
-            boolean canBe = (found & version) != 0 || canHold(version, 0L);
-            boolean canLack = (found & version) == 0 || canHold(0L, version);
-            return !canLack ? 1 : canBe ? 0 : -1;
+            boolean isIn = (search.found() & version) != 0;
+            boolean isOther = search.canHold(isIn ? 0L : version, isIn ? version : 0L);
+            return isOther ? 0 : isIn ? 1 : -1;
         }
 
-        /** Ends the bound on changes. */
-        private void free() {
-            like = 0L;
-            bound = MOST_PACKS;
-        }
-
-        /** Settles package by package, the better one first; found holds already. */
-        private void findFirst() {
+        /** Settles package by package, the better one first, behind find. */
+        void settle() {
             findTurns();
-            long with = 0L;
-            long without = 0L;
+            long some = 0L;
+            long none = 0L;
             for (int t = 0; t < shelf.packs; t++) {
-                long version = bestVersion(turns[t], with, without);
-                with |= version;
-                without |= shelf.versionsOf(turns[t]) & ~version;
+                long version = bestVersion(turns[t], some, none);
+                some |= version;
+                none |= shelf.versionsOf(turns[t]) & ~version;
             }
             for (int p = 0; p < shelf.packs; p++) {
-                if (canStillHold(with, without | switchOf(p))) {
-                    without |= switchOf(p);
+                if (canStill(some, none | switchOf(p))) {
+                    none |= switchOf(p);
                 } else {
-                    with |= switchOf(p);
+                    some |= switchOf(p);
                 }
             }
-            found = with;
+            found = some;
         }
 
         /** The best version of a package that can be with what is settled, 0 for none. */
-        private long bestVersion(int pack, long with, long without) {
+        private long bestVersion(int pack, long some, long none) {
             boolean isWished = (wishedPacks >> pack & 1) != 0;
-            if (!isWished && canStillHold(with, without | shelf.versionsOf(pack))) {
+            if (!isWished && canStill(some, none | shelf.versionsOf(pack))) {
                 return 0L;
             }
             for (int k = shelf.perPack[pack] - 1; k >= 0; k--) {
                 long version = 1L << shelf.idAt(pack, k);
-                if (canStillHold(with | version, without)) {
+                if (canStill(some | version, none)) {
                     return version;
                 }
             }
             return 0L;
         }
 
-        /** As canHold, but spares the search if the set found last shows it. */
-        private boolean canStillHold(long with, long without) {
-            return (with & ~found) == 0 && (without & found) == 0 || canHold(with, without);
+        /** Whether a set has these, and lacks those; no search if the set found last shows it. */
+        private boolean canStill(long some, long none) {
+            if ((some & ~found) == 0 && (none & found) == 0) {
+                return true;
+            }
+            boolean isFound = search.canHold(some, none);
+            found = isFound ? search.found() : found;
+            return isFound;
         }
 
         /** The order of the packages: those in wishes as they stand there, then the others. */
@@ -1873,7 +2262,7 @@ public final class Kitwarden {
             }
         }
 
-        /** Whether a set is ahead of another one (after findNewest or findLeast). */
+        /** Whether a set is ahead of another one (behind settle). */
         boolean isAhead(long set, long other) {
             for (int t = 0; t < shelf.packs; t++) {
                 int pack = turns[t];
@@ -1892,110 +2281,6 @@ public final class Kitwarden {
             }
             return false;
         }
-
-        /** Whether a set that has these, and lacks those, can hold; if so, found is one. */
-        boolean canHold(long with, long without) {
-            yes = with;
-            no = without;
-            int depth = 0;
-            for (int tries = 0; tries < MOST_TRIES; tries++) {
-                boolean isOpen = (yes & no) == 0 && draw();
-                if (isOpen && !choose()) {
-                    found = yes | like & ~no;
-                    return true;
-                }
-                if (isOpen && depth < DEPTH) {
-                    yesAt[depth] = yes;
-                    noAt[depth] = no;
-                    literalAtLevel[depth] = literal;
-                    isWithAt[depth] = isWith;
-                    depth++;
-                    yes |= isWith ? literal : 0L;
-                    no |= isWith ? 0L : literal;
-                } else if (depth > 0) {
-                    depth--;
-                    yes = yesAt[depth] | (isWithAt[depth] ? 0L : literalAtLevel[depth]);
-                    no = noAt[depth] | (isWithAt[depth] ? literalAtLevel[depth] : 0L);
-                } else {
-                    return false;
-                }
-            }
-            return false;
-        }
-
-        /** Draws what must follow, until nothing more does; false if a clause cannot hold. */
-        private boolean draw() {
-            boolean isMore = true;
-            for (int round = 0; round <= DEPTH && isMore; round++) {
-                isMore = false;
-                if (!isInBound()) {
-                    return false;
-                }
-                for (int c = 0; c < clauses.number; c++) {
-                    if (isLeftOut[c] || (clauses.with[c] & yes) != 0
-                            || (clauses.without[c] & no) != 0) {
-                        continue;
-                    }
-                    long open = clauses.with[c] & ~no;
-                    long openNot = clauses.without[c] & ~yes;
-                    int left = Long.bitCount(open) + Long.bitCount(openNot);
-                    if (left > 1) {
-                        continue;
-                    }
-                    isUsed[c] = true;
-                    if (left == 0) {
-                        return false;
-                    }
-                    yes |= open;
-                    no |= openNot;
-                    isMore = true;
-                }
-            }
-            return true;
-        }
-
-        /** False if too many packages are changed; if one more would be, the others stay. */
-        private boolean isInBound() {
-            if (bound >= shelf.packs) {
-                return true;
-            }
-            long unlike = yes & ~like | no & like;
-            int changed = 0;
-            for (int p = 0; p < shelf.packs; p++) {
-                changed += (unlike & shelf.whole[p]) != 0 ? 1 : 0;
-            }
-            for (int p = 0; p < shelf.packs && changed == bound; p++) {
-                long whole = shelf.whole[p];
-                if ((unlike & whole) == 0) {
-                    yes |= whole & like;
-                    no |= whole & ~like;
-                }
-            }
-            return changed <= bound;
-        }
-
-        /**
-         * Chooses a literal of a clause that would not hold if all that is open were as in like; of
-         * these clauses one with the fewest open literals. False if there is no such clause.
-         */
-        private boolean choose() {
-            long filled = yes | like & ~no;
-            int fewest = 2 * DEPTH;
-            for (int c = 0; c < clauses.number; c++) {
-                if (!isLeftOut[c] && (clauses.with[c] & filled) == 0
-                        && (clauses.without[c] & ~filled) == 0) {
-                    long open = clauses.with[c] & ~no;
-                    long openNot = clauses.without[c] & ~yes;
-                    int left = Long.bitCount(open) + Long.bitCount(openNot);
-                    if (left < fewest) {
-                        fewest = left;
-                        isWith = open != 0;
-                        literal = isWith ? open & -open : openNot & -openNot;
-                    }
-                }
-            }
-            return fewest < 2 * DEPTH;
-        }
     }
 
     /** The core of the told clauses that cannot hold together, and the proof from it. */
@@ -2004,7 +2289,7 @@ public final class Kitwarden {
         private static final int WORDS = 4;
 
         private final Clauses clauses;
-        private final Solver solver;
+        private final Search search;
         int coreCount = 0;
         final int[] core = new int[Clauses.MOST];
         private final boolean[] isBlamed = new boolean[Clauses.MOST];
@@ -2019,9 +2304,9 @@ public final class Kitwarden {
         private long joinedWith;
         private long joinedWithout;
 
-        Prover(Clauses clauses, Solver solver) {
+        Prover(Clauses clauses, Search search) {
             this.clauses = clauses;
-            this.solver = solver;
+            this.search = search;
         }
 
         int literalsOf(int row) {
@@ -2037,13 +2322,13 @@ public final class Kitwarden {
             takeAll();
             boolean canHold = !isRefuted();
             for (int c = clauses.number - 1; c >= 0 && !canHold; c--) {
-                solver.isLeftOut[c] = true;
+                search.isLeftOut[c] = true;
                 if (isBlamed[c] && !isRefuted()) {
-                    solver.isLeftOut[c] = false;
+                    search.isLeftOut[c] = false;
                 }
             }
             for (int c = 0; c < clauses.number && !canHold; c++) {
-                if (!solver.isLeftOut[c]) {
+                if (!search.isLeftOut[c]) {
                     core[coreCount] = c;
                     coreCount++;
                 }
@@ -2053,18 +2338,18 @@ public final class Kitwarden {
 
         private void takeAll() {
             for (int c = 0; c < clauses.number; c++) {
-                solver.isLeftOut[c] = false;
+                search.isLeftOut[c] = false;
             }
         }
 
         private boolean isRefuted() {
             for (int c = 0; c < clauses.number; c++) {
-                solver.isUsed[c] = false;
+                search.isUsed[c] = false;
             }
-            solver.free();
-            boolean canHold = solver.canHold(0L, 0L);
+            search.load(0L, MOST_PACKS);
+            boolean canHold = search.canHold(0L, 0L);
             for (int c = 0; c < clauses.number && !canHold; c++) {
-                isBlamed[c] = solver.isUsed[c];
+                isBlamed[c] = search.isUsed[c];
             }
             return !canHold;
         }
@@ -2088,7 +2373,7 @@ public final class Kitwarden {
         }
 
         private boolean isBestJoined() {
-            int best = Solver.DEPTH;
+            int best = Search.BITS;
             int first = NONE;
             int second = NONE;
             for (int j = 1; j < rows; j++) {
@@ -2178,16 +2463,16 @@ public final class Kitwarden {
                 return false;
             }
             for (int c = 0; c < clauses.number; c++) {
-                solver.isLeftOut[c] = true;
+                search.isLeftOut[c] = true;
             }
             for (int k = 0; k < coreCount; k++) {
-                solver.isLeftOut[core[k]] = false;
+                search.isLeftOut[core[k]] = false;
             }
             boolean isWrong = !isRefuted();
             for (int k = 0; k < coreCount && !isWrong; k++) {
-                solver.isLeftOut[core[k]] = true;
+                search.isLeftOut[core[k]] = true;
                 isWrong = isRefuted();
-                solver.isLeftOut[core[k]] = false;
+                search.isLeftOut[core[k]] = false;
             }
             takeAll();
             return isWrong;
@@ -2205,8 +2490,14 @@ public final class Kitwarden {
         }
     }
 
-    /** How the packages of a set hang together: the order of scripts, and why they are reached. */
-    private static final class Links {
+    /**
+     * How the packages of a set hang together: the order of scripts, and why they are reached; the
+     * steps to the goal, what is fetched for them, and how they are carried out.
+     */
+    private static final class Installer {
+        // Told in place of a set if a step fails; no set has this bit.
+        private static final long FAILED = 1L << 62;
+
         private final State state;
         private final Shelf shelf;
         private final Meets meets;
@@ -2218,8 +2509,10 @@ public final class Kitwarden {
         boolean isRing = false;
         final int[] reasons = new int[MOST_PACKS];
         final int[] distances = new int[MOST_PACKS];
+        final int[] steps = new int[MOST_PACKS];
+        int stepCount = 0;
 
-        Links(State state, Meets meets) {
+        Installer(State state, Meets meets) {
             this.state = state;
             this.shelf = state.shelf;
             this.meets = meets;
@@ -2359,26 +2652,6 @@ public final class Kitwarden {
                 }
             }
         }
-    }
-
-    /** Finds the steps to the goal, fetches what comes, and carries the steps out. */
-    private static final class Installer {
-        // Told in place of a set if a step fails; no set has this bit.
-        private static final long FAILED = 1L << 62;
-
-        private final State state;
-        private final Shelf shelf;
-        private final Meets meets;
-        private final Links links;
-        final int[] steps = new int[MOST_PACKS];
-        int stepCount = 0;
-
-        Installer(State state, Meets meets, Links links) {
-            this.state = state;
-            this.shelf = state.shelf;
-            this.meets = meets;
-            this.links = links;
-        }
 
         void findSteps() {
             long there = state.atHand().inPlace;
@@ -2428,16 +2701,16 @@ public final class Kitwarden {
             return packsIn(root.goal & ~root.inPlace);
         }
 
-        /** What would come at a place of the order of fetches (after Links.arrange). */
+        /** What would come at a place of the order of fetches (behind arrange). */
         int comingAt(int place, boolean isMirror) {
             int fetched = state.fetched;
             int passed = 0;
-            for (int k = 0; k < links.length; k++) {
-                int id = comingOf(links.row[k]);
+            for (int k = 0; k < length; k++) {
+                int id = comingOf(row[k]);
                 if (id != NONE) {
                     int mirror = state.mirrorFor(id, fetched, false);
                     if (passed == place) {
-                        return isMirror ? mirror : links.row[k];
+                        return isMirror ? mirror : row[k];
                     }
                     fetched += mirror != NONE ? 1 : 0;
                     passed++;
@@ -2450,9 +2723,9 @@ public final class Kitwarden {
         int run() {
             Root root = state.atHand();
             root.tellFailure(NONE, NONE, NONE);
-            links.arrange(root.goal);
-            if (links.isRing) {
-                root.tellFailure(RING, links.row[0], NONE);
+            arrange(root.goal);
+            if (isRing) {
+                root.tellFailure(RING, row[0], NONE);
                 return NONE;
             }
             if (!isAllFetched()) {
@@ -2472,11 +2745,11 @@ public final class Kitwarden {
         }
 
         private boolean isAllFetched() {
-            for (int k = 0; k < links.length && state.mirrors > 0; k++) {
-                int id = comingOf(links.row[k]);
+            for (int k = 0; k < length && state.mirrors > 0; k++) {
+                int id = comingOf(row[k]);
                 if (id != NONE) {
                     if (state.mirrorFor(id, state.fetched, true) == NONE) {
-                        state.atHand().tellFailure(FETCH, links.row[k], NONE);
+                        state.atHand().tellFailure(FETCH, row[k], NONE);
                         return false;
                     }
                     state.fetched++;
@@ -2491,20 +2764,20 @@ public final class Kitwarden {
             long moved = moved(there, goal, steps[number]);
             long coming = moved & ~there & ALL_VERSIONS;
             int files = filesOf(there & moved);
-            for (int k = 0; k < links.length; k++) {
-                int id = shelf.idIn(coming, links.row[k]);
+            for (int k = 0; k < length; k++) {
+                int id = shelf.idIn(coming, row[k]);
                 if (id != NONE && (files & shelf.files[id]) != 0) {
-                    return failedBy(FILE, links.row[k], number);
+                    return failedBy(FILE, row[k], number);
                 }
                 files |= id != NONE ? shelf.files[id] : 0;
             }
             if (shelf.sizeOf(moved) > state.atHand().most) {
                 return failedBy(SPACE, greatestOf(steps[number]), number);
             }
-            for (int k = 0; k < links.length; k++) {
-                int id = shelf.idIn(coming, links.row[k]);
+            for (int k = 0; k < length; k++) {
+                int id = shelf.idIn(coming, row[k]);
                 if (id != NONE && has(shelf.failing, id)) {
-                    return failedBy(SCRIPT, links.row[k], number);
+                    return failedBy(SCRIPT, row[k], number);
                 }
             }
             return moved;

@@ -98,7 +98,7 @@ public final class LanguageTest {
         }
         used.removeIf(u -> u.matches("(Span|Reader|Solver|Clauses)\\..*"));
         Kit.same("library", used.toString(), "[Arrays.fill, Integer.bitCount, Long.bitCount, "
-                + "Math.floorMod, System.arraycopy]");
+                + "Math.floorMod, Math.min, System.arraycopy]");
         refuse("fill of what is no number", code, "Arrays.fill\\([^)]*(true|false|null)\\)");
         m = Pattern.compile("(?m)^import (.*);").matcher(code);
         TreeSet<String> imports = new TreeSet<>();
