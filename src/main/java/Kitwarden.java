@@ -1751,7 +1751,8 @@ public final class Kitwarden {
         private static final int BITS = 64;
         private static final int FIRST_CHANGE = MOST_VERSIONS + MOST_PACKS;
         private static final long CHANGES = -1L << FIRST_CHANGE;
-        private static final int MOST_KEPT = 256;
+        // More than twice BITS: so there is room once the older half, but reasons, is forgotten.
+        private static final int MOST_KEPT = 160;
         // Behind all clauses: that too many packages are changed, and what is made of a clash.
         private static final int BOUND = Clauses.MOST + FIRST_CHANGE + MOST_KEPT;
         private static final int DRAFT = BOUND + 1;

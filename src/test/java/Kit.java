@@ -67,12 +67,13 @@ final class Kit {
     // ---- Telling
 
     Kit tape(String text) {
-        for (int at = 0; at < text.length(); at += 4) {
-            int word = 0;
-            for (int k = at; k < at + 4; k++) {
-                word = word << 8 | (k < text.length() ? text.charAt(k) : 0);
+        int[] words = new int[5];
+        for (int at = 0; at < text.length(); at += 20) {
+            for (int k = 0; k < 20; k++) {
+                int one = at + k < text.length() ? text.charAt(at + k) : 0;
+                words[k / 4] = words[k / 4] << 8 | one;
             }
-            x.append(word, 0, 0, 0, 0);
+            x.append(words[0], words[1], words[2], words[3], words[4]);
         }
         return this;
     }
