@@ -5,6 +5,8 @@ final class Kit {
     }
 
     static int wrong = 0;
+    // Told ahead of each answer that is wrong.
+    static String context = "";
 
     final Kitwarden x = new Kitwarden();
 
@@ -26,7 +28,7 @@ final class Kit {
     static void same(String what, Object got, Object due) {
         if (!due.equals(got)) {
             wrong++;
-            System.out.println(what + " answered " + got + ", due is " + due);
+            System.out.println(context + what + " answered " + got + ", due is " + due);
         }
     }
 
@@ -62,6 +64,41 @@ final class Kit {
 
     void element(String what, Call call) {
         refuses(what, java.util.NoSuchElementException.class, call);
+    }
+
+    /** As refuses; the call does not read, or not that far: the tape and the error position stay. */
+    void unread(String what, Class<? extends RuntimeException> due, Call call) {
+        x.clearTape();
+        int position = x.errorPosition();
+        tape("a ?");
+        refuses(what, due, call);
+        same(what + " has thrown, then errorPosition", x.errorPosition(), position);
+        same(what + " has thrown, then clearTape", x.clearTape(), 3);
+    }
+
+    /** The call reads a text with an error at a position: the tape is empty behind it. */
+    void misread(String text, int position, Call call) {
+        x.clearTape();
+        tape(text);
+        refuses("\"" + text + "\"", IllegalArgumentException.class, call);
+        same("\"" + text + "\" was read, then errorPosition", x.errorPosition(), position);
+        same("\"" + text + "\" was read, then clearTape", x.clearTape(), 0);
+    }
+
+    /** Numbers of no package are refused ahead of everything else. */
+    void noPackage(String what, java.util.function.IntFunction<Object> call) {
+        for (int pack : new int[] {-1, x.count(0), Integer.MIN_VALUE, Integer.MAX_VALUE}) {
+            unread(what + " of package " + pack, IndexOutOfBoundsException.class,
+                    () -> call.apply(pack));
+        }
+    }
+
+    /** Numbers outside of a range are refused. */
+    void outside(String what, int least, int most, Class<? extends RuntimeException> due,
+            java.util.function.IntFunction<Object> call) {
+        for (int number : new int[] {least - 1, most + 1, Integer.MIN_VALUE, Integer.MAX_VALUE}) {
+            unread(what + " with " + number, due, () -> call.apply(number));
+        }
     }
 
     // ---- Telling

@@ -244,7 +244,7 @@ public final class WhyTest {
      * One of so many versions is needed, and one of so many, and all of them ban each other; the
      * first need has some more versions, which are pinned away. The last of these has 201 rows.
      */
-    private static void groups(int first, int second, int pinned, int core, int proof) {
+    static void groups(int first, int second, int pinned, int core, int proof) {
         Kit kit = Kit.of(12);
         StringBuilder[] wishes = {new StringBuilder("l 8.0"), new StringBuilder("l 8.0")};
         for (int k = 0; k < first + second + pinned; k++) {
