@@ -520,7 +520,10 @@ final class ClauseEdges {
             Kit.same("a set fits", kit.x.proof(), 0);
             Kit.same("nothing is told", new Kit().x.proof(), 0);
         });
-        Edge.of("P31", "NONE if there is no proof.").holds(() -> WhyTest.groups(7, 13, 2, 95, -1));
+        Edge.of("P31", "NONE if there is no proof.").holds(() -> {
+            WhyTest.groups(7, 13, 2, 95, -1);
+            WhyTest.coreTooLarge();
+        });
         Edge.of("P31", "Returns how many there are, those of the core that are needed among them;")
                 .holds(() -> {
             Kit kit = Kit.of(1);

@@ -1,4 +1,5 @@
 import java.math.BigInteger;
+import java.util.ArrayList;
 import java.util.List;
 import java.util.Map;
 import java.util.NoSuchElementException;
@@ -178,19 +179,28 @@ final class HistoryEdges {
     private static void undone() {
         Edge.of("11", "all is then as it was ahead of the change, but the tape, its error position, and what can "
                 + "be undone.").holds(() -> {
-            for (String promise : calls(rich()).keySet()) {
-                Kit kit = richFor(promise);
-                String[] before = {kit.all(), inRoot(kit, 0), inRoot(kit, 1), inRoot(kit, 2)};
-                int undoable = kit.x.count(7);
-                calls(kit).get(promise).on();
-                if (kit.x.count(7) > undoable) {
-                    kit.x.undo();
-                    String[] behind = {kit.all(), inRoot(kit, 0), inRoot(kit, 1), inRoot(kit, 2)};
-                    for (int k = 0; k < 4; k++) {
-                        Kit.same(promise + " undone", behind[k], before[k]);
-                    }
+            Kit.same("install", full20(0, false).x.install() + " " + full20(0, true).x.install(), "2 -1");
+            for (int k = 0; k < 4 * changesOf(full20(0, true)).length; k++) {
+                // Root 0 twice, with a script that fails, and roots 1 and 2.
+                Kit undone = full20(Math.max(0, k % 4 - 1), k % 4 == 1);
+                Kit never = full20(Math.max(0, k % 4 - 1), k % 4 == 1);
+                int undoable = undone.x.count(7);
+                changesOf(undone)[k / 4].on();
+                Kit.same("change " + k, undone.x.count(7), undoable + 1);
+                Kit.same("change " + k + " undone", undone.x.undo(), undoable);
+                for (int root = 0; root < 3; root++) {
+                    Kit.same("change " + k + " undone", inRoot(undone, root), inRoot(never, root));
+                }
+                List<String> behind = afterwards(undone);
+                List<String> due = afterwards(never);
+                for (int step = 0; step < due.size(); step++) {
+                    Kit.same("change " + k + " undone, step " + step, behind.get(step), due.get(step));
                 }
             }
+            Kit first = Kit.of(1).v(0, 10099);
+            first.option(0, 10099, "a");
+            first.x.undo();
+            Kit.same("option of the first version", first.option(0, 10099, "a"), 1);
             Kit kit = rich();
             kit.misread("a ?", 2, kit.x::wish);
             kit.x.quota(7);
@@ -203,6 +213,93 @@ final class HistoryEdges {
             Kit.same("the error position stays", kit.x.errorPosition(), -1);
             Kit.same("the tape stays", kit.x.clearTape(), 0);
         });
+    }
+
+    /**
+     * A history that is full, and in which one entry is unlike the next one; a goal that is not
+     * installed, but can be, or fails by the script of a; five changes can be undone.
+     */
+    private static Kit full20(int root, boolean isFailing) {
+        Kit kit = chain(3);
+        kit.x.root(root);
+        if (root > 0) {
+            kit.wish("a");
+        }
+        kit.full(0, 20099, 8, 5, 9).full(1, 20099, 16, 6, 10);
+        for (int m = 0; m < 2; m++) {
+            kit.x.mirror();
+            for (int p = 0; p < 3; p++) {
+                kit.x.offer(m, p, 10099, p);
+            }
+        }
+        kit.pin(0, "1.0");
+        kit.pin(1, "1.0");
+        for (int k = 0; k < 11; k++) {
+            kit.x.backTo(-1);
+            kit.x.install();
+            kit.x.solve(false);
+            kit.x.install();
+        }
+        kit.x.lock(2);
+        kit.pin(0, "2.0");
+        kit.need(0, 20099, "b");
+        kit.ban(0, 20099, "b 7.0");
+        kit.x.provide(0, 20099, 1, 40099);
+        kit.option(0, 20099, "c");
+        kit.wish("a#");
+        kit.x.offer(0, 0, 20099, 99);
+        kit.x.offer(1, 0, 20099, 9);
+        kit.x.hold(2, true);
+        kit.x.quota(30000);
+        kit.x.fails(0, 20099, isFailing);
+        kit.x.solve(false);
+        for (int k = 0; k < 5; k++) {
+            kit.x.root(root);
+        }
+        for (int k = 0; k < 5; k++) {
+            kit.x.undo();
+        }
+        return kit;
+    }
+
+    /** Changes of all kinds, in a state as full20. */
+    private static Kit.Call[] changesOf(Kit kit) {
+        return new Kit.Call[] {kit.x::pack, () -> kit.x.version(1, 30099, 9, 8, 7),
+            () -> kit.x.version(0, 99, 9, 8, 7), () -> kit.ahead(0, 20099, "c"),
+            () -> kit.ban(0, 20099, "b 7.0"), () -> kit.x.provide(0, 20099, 2, 60099),
+            () -> kit.option(1, 20099, "c"), () -> kit.ban(1, 20099, "c"), () -> kit.x.root(1),
+            () -> kit.x.root(0), () -> kit.need(1, 20099, "a#"), () -> kit.x.provide(1, 20099, 0, 99),
+            () -> kit.wish("b"), () -> kit.x.unwish(0), () -> kit.x.hold(0, true),
+            () -> kit.x.hold(1, false), () -> kit.pin(0, "1.0"), () -> kit.pin(1, ""),
+            () -> kit.x.quota(5), () -> kit.x.quota(40000), () -> kit.x.solve(false),
+            () -> kit.x.solve(true), () -> kit.x.lock(1), () -> kit.x.lock(2),
+            () -> kit.x.mergeLocks(1, 2), () -> kit.x.takeLock(1), kit.x::mirror,
+            () -> kit.x.offer(0, 0, 20099, 7), () -> kit.x.offer(1, 2, 10099, 7),
+            () -> kit.x.offer(0, 1, 20099, 10), () -> kit.x.offer(1, 1, 20099, 0), kit.x::install,
+            () -> kit.x.fails(0, 20099, true), () -> kit.x.fails(2, 10099, false),
+            () -> kit.x.backTo(-1), () -> kit.x.backTo(kit.x.count(5) - 20)};
+    }
+
+    /** What a row of calls of all kinds answers; it makes what an undone change has made before. */
+    private static List<String> afterwards(Kit kit) {
+        List<String> answers = new ArrayList<>();
+        Kit.Call[] calls = {kit.x::install, () -> kit.x.offer(0, 0, 20099, 0),
+            () -> kit.x.offer(1, 1, 10099, 1), kit.x::install, () -> kit.x.backTo(kit.x.count(5) - 20),
+            () -> kit.x.lock(0), kit.x::pack, () -> kit.x.version(3, 40099, 1024, 3, 11),
+            () -> kit.x.version(1, 50099, 2048, 4, 12), () -> kit.need(3, 40099, "b 5.0"),
+            () -> kit.need(3, 40099, "b"), () -> kit.need(3, 40099, "d"), () -> kit.ban(3, 40099, "a 7.0"),
+            () -> kit.x.provide(3, 40099, 0, 80099), () -> kit.option(3, 40099, "a 1.0"),
+            () -> kit.x.fails(3, 40099, false), () -> kit.wish("d"), () -> kit.x.solve(false),
+            () -> kit.x.offer(0, 3, 40099, 11), () -> kit.x.offer(0, 1, 50099, 12), kit.x::install,
+            () -> kit.x.fails(0, 20099, false), kit.x::install, () -> kit.wish("d#"),
+            () -> kit.x.solve(true), kit.x::install, () -> kit.x.hold(1, true), () -> kit.pin(0, "*"),
+            () -> kit.x.unwish(0), () -> kit.x.quota(7), () -> kit.x.lock(1), () -> kit.x.mergeLocks(0, 2),
+            () -> kit.x.backTo(-1), kit.x::install, () -> kit.x.root(1), () -> kit.wish("b"),
+            () -> kit.x.solve(false), kit.x::install};
+        for (Kit.Call call : calls) {
+            answers.add(Kit.answer(call) + "\n" + kit.all());
+        }
+        return answers;
     }
 
     private static String inRoot(Kit kit, int root) {

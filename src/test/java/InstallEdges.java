@@ -717,6 +717,15 @@ final class InstallEdges {
             Kit three = wished(Kit.of(3).full(0, 10099, 1, 0, 0).full(1, 10099, 1 | 1 << 30, 0, 0)
                     .full(2, 10099, 1 | 1 << 30, 0, 0));
             Kit.same("each once", three.x.clashes(), 2);
+            int[][] files = {{1, 1, 2}, {1, 2, 1}, {2, 1, 1}, {3, 1, 2}, {1, 3, 2}, {1, 2, 3}, {1, 2, 4}};
+            int[] due = {1, 1, 1, 2, 2, 2, 0};
+            for (int k = 0; k < files.length; k++) {
+                Kit kits = Kit.of(3);
+                for (int p = 0; p < 3; p++) {
+                    kits.full(p, 10099, files[k][p], 0, 0);
+                }
+                Kit.same("world " + k, wished(kits).x.clashes(), due[k]);
+            }
         });
     }
 

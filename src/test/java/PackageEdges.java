@@ -585,6 +585,7 @@ final class PackageEdges {
                 kit.unread("thing", STATE, () -> kit.x.provide(0, code, 1, 99));
                 Kit.same("an option is no need", kit.option(0, code, "a"), code == 20099 ? 1 : 2);
             }
+            fullLastVersion();
         });
         Edge.of("3", "A need has a text, and can be ahead (section 9);").and("P7", "- `isAhead`: whether the "
                 + "need is ahead").holds(() -> {
@@ -630,6 +631,33 @@ final class PackageEdges {
             Kit.same("a is b 5.0 and c", kit.goal(), "10099 20099 -");
             Kit.same("it comes to no package", kit.row(3, kit.x::versions), "1 1 0");
         });
+    }
+
+    /** The 40th version has all that it can have, and is in a goal and installed. */
+    private static void fullLastVersion() {
+        Kit kit = Kit.of(12);
+        for (int k = 0; k < 40; k++) {
+            kit.full(k < 32 ? k / 8 : k - 28, 99 + 100 * k, 0, 1, k);
+        }
+        for (int k = 0; k < 3; k++) {
+            kit.ahead(11, 3999, "k|j");
+        }
+        for (int k = 0; k < 2; k++) {
+            kit.ban(11, 3999, "a");
+            kit.x.provide(11, 3999, 10, 999999);
+        }
+        kit.option(11, 3999, "i");
+        kit.wish("l#");
+        Kit.same("it meets its needs", kit.install(), 2);
+        Kit.same("goal", kit.goal(), "- - - - - - - - 3699 - - 3999+");
+        kit.x.mirror();
+        Kit.same("offer", kit.x.offer(0, 11, 3999, 39), 1);
+        Kit.same("because", kit.x.because(8) * 10 + kit.x.far(8), 112);
+        Kit.same("a is banned", kit.x.must(0, 99), -1);
+        // 12 options, 4 * 28 pairs, the wish, the needs, the bans, the need of the option.
+        Kit.same("told", kit.x.count(4), 12 + 112 + 2 + 3 + 16 + 1);
+        Kit.same("without i", kit.x.without(8), 2048);
+        Kit.same("no error", kit.x.errors(), 0);
     }
 
     private static void options() {
@@ -752,6 +780,13 @@ final class PackageEdges {
             Kit.same("none", kit.x.plan(), 2);
             kit.x.provide(1, 10099, 2, 10099);
             kit.unread("by the second one, provided", STATE, kit.x::plan);
+            Kit first = Kit.of(3).v(0, 10099).v(1, 10099).v(2, 10099);
+            first.wish("a");
+            first.wish("b");
+            first.x.solve(false);
+            first.ban(1, 10099, "a");
+            first.ban(1, 10099, "c");
+            first.unread("by the first one", STATE, first.x::plan);
         });
         Edge.of("3", "and, if its option is on, the version has the option,").holds(() -> {
             Kit kit = Kit.of(1).v(0, 10099, 20099);

@@ -546,6 +546,8 @@ final class TextEdges {
             met(parts(), "^1.99", "19999");
             met(parts(), "^2.2", "");
             met(parts(), "^99.0", "999999");
+            met(Kit.of(1).v(0, 19999, 20001, 20099, 990001, 999999), "^2.0!1", "20001 20099");
+            met(Kit.of(1).v(0, 19999, 20001, 20099, 990001, 999999), "^99.0!1", "990001 999999");
         });
         Edge.of("2", "behind \"~\" by it and newer ones with the same major and minor part;")
                 .holds(() -> {
@@ -600,6 +602,12 @@ final class TextEdges {
             met(kit, "1.0..1.1", "10099 10199");
             met(kit, "2.0!5..2.0!5", "20005");
             met(kit, "*,1.1!5", "10099 10105 10199 20099");
+            Kit least = Kit.of(1).v(0, 1, 98, 99, 101, 198, 199, 999998, 999999);
+            met(least, "*", "99 199 999999");
+            met(least, "0.0..99.99", "99 199 999999");
+            met(least, "<99.99", "99 199");
+            met(least, ">0.0!98", "98 99 199 999999");
+            met(least, "<99.99!98,0.1!98", "99 198 199");
         });
         Edge.of("2", "no range is \"*\".").holds(() -> {
             Kit kit = Kit.of(1).v(0, 10098);
@@ -608,6 +616,11 @@ final class TextEdges {
             kit.v(0, 99);
             Kit.same("but each other one", kit.x.solve(false), 1);
             Kit.same("the older one", kit.goal(), "99");
+            for (int code : new int[] {1, 98, 101, 198, 990001, 999998}) {
+                Kit trial = Kit.of(1).v(0, code);
+                trial.wish("a");
+                Kit.same("no trial " + code, trial.x.solve(false), -1);
+            }
             Kit on = Kit.of(1).v(0, 10098);
             on.option(0, 10098, "a 1.0!98");
             on.wish("a#");

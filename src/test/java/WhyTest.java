@@ -222,7 +222,7 @@ public final class WhyTest {
     }
 
     /** Of ten packages all versions ban each other, and one of five is needed, and of five. */
-    private static void coreTooLarge() {
+    static void coreTooLarge() {
         Kit kit = Kit.of(11);
         for (int k = 0; k < 40; k++) {
             int code = 10099 + 100 * (k / 10);
