@@ -190,6 +190,21 @@ final class SetEdges {
             least(kit, "a may stay", "20099 20099 -");
             kit.pin(1, "7.0");
             least(kit, "or c", "20099 - 20099");
+            // a 2.0 with d and b, or with c, d and one of b and e.
+            Kit fewer = Kit.of(5).v(0, 10099, 20099).v(1, 10099).v(2, 10099).v(3, 10099).v(4, 10099);
+            fewer.wish("a 1.0");
+            fewer.install();
+            fewer.need(3, 10099, "c|b");
+            fewer.need(2, 10099, "a|e");
+            fewer.need(2, 10099, "e|b");
+            fewer.ban(3, 10099, "d");
+            fewer.need(2, 10099, "d");
+            fewer.need(0, 20099, "c|d");
+            fewer.x.unwish(0);
+            fewer.wish("a 2.0");
+            least(fewer, "three changes, not four", "20099 10099 - 10099 -");
+            fewer.pin(1, "7.0");
+            least(fewer, "four", "20099 - 10099 10099 10099");
         });
     }
 
@@ -393,6 +408,10 @@ final class SetEdges {
             Kit.same("5040", next.x.fitting(), -1);
             next.x.undo();
             Kit.same("4320", next.x.fitting(), 4320);
+            plain.x.pack();
+            Kit.same("5000 with a package without versions", plain.x.fitting(), 5000);
+            plain.v(5, 99);
+            Kit.same("twice 5000", plain.x.fitting(), -1);
         });
     }
 
